@@ -194,13 +194,13 @@ public final class SyntaxRules {
         if (!isRule(rule)) {
             return NONE;
         }
-        Rule asked = rules[rule];
+        Rule its = rules[rule];
         switch (what) {
-            case 0: return tree.layRow(asked);
-            case 1: return asked.itemsOf(Rule.ROW, 0, asked.patternEnd);
-            case 2: return asked.itemsOf(Rule.DEEP, 0, asked.patternEnd);
-            case 3: return Integer.bitCount(asked.holeBits);
-            case 4: return asked.itemsOf(Rule.TERM, asked.patternEnd, asked.items);
+            case 0: return tree.layRow(its);
+            case 1: return its.itemsOf(Rule.ROW, 0, its.patternEnd);
+            case 2: return its.itemsOf(Rule.DEEP, 0, its.patternEnd);
+            case 3: return Integer.bitCount(its.holeBits);
+            case 4: return its.itemsOf(Rule.TERM, its.patternEnd, its.items);
             default: return NONE;
         }
     }
@@ -304,7 +304,7 @@ public final class SyntaxRules {
         int fitBits = 0;
         int editBits = 0;
         for (int n = 0; n < now.nodes; n++) {
-            int bits = fitting.fittingRules(now, rules, n);
+            int bits = walk.fitBits[n];
             fitBits |= bits;
             if (walk.ruleAt[n] != NONE) {
                 editBits |= 1 << walk.ruleAt[n];
@@ -476,10 +476,17 @@ public final class SyntaxRules {
     }
 
     /** What comes by the i-th EDIT of the WALK that was laid last, with no blanks put beside. */
-    private Writer writtenAlone(int i, int caughtSign) {
-        writer.clear(caughtSign);
-        writer.writeEdit(now, rules[walk.ruleOf(i)], walk.editNode[i], fitting);
+    private Writer writtenAlone(int i, int caughtAt) {
+        writer.clear(caughtAt);
+        writeEdit(now, i);
         return writer;
+    }
+
+    private void writeEdit(Source from, int i) {
+        Rule its = rules[walk.ruleOf(i)];
+        if (its != null && fitting.fits(from, its, walk.editNode[i])) {
+            writer.writeEdit(from, its, walk.editNode[i], fitting);
+        }
     }
 
     /** One APPLIED WALK: how many EDITS; with none of them nothing is written. */
@@ -488,7 +495,16 @@ public final class SyntaxRules {
         if (walk.edits == 0) {
             return 0;
         }
-        writer.writeAll(from, rules, walk, fitting);
+        writer.clear(NONE);
+        int behind = 0;
+        for (int i = 0; i < walk.edits; i++) {
+            writer.putRow(from.text, behind, from.begin[walk.editNode[i]]);
+            writer.putSeam();
+            writeEdit(from, i);
+            writer.putSeam();
+            behind = from.behind[walk.editNode[i]];
+        }
+        writer.putRow(from.text, behind, from.text.length);
         if (writer.length > MOST_SIGNS || !into.read(writer.written())) {
             return CANNOT;
         }
@@ -526,19 +542,22 @@ public final class SyntaxRules {
         }
 
         boolean same(Text other) {
-            return length == other.length && sameSigns(0, other, 0, length);
+            return length == other.length && sameRow(0, other, 0, length);
         }
 
-        boolean sameSigns(int from, Text other, int otherFrom, int many) {
+        boolean sameRow(int from, Text other, int otherFrom, int many) {
+            if (from < 0 || otherFrom < 0 || from + many > length || otherFrom + many > other.length) {
+                return false;
+            }
             for (int i = 0; i < many; i++) {
-                if (at(from + i) != other.at(otherFrom + i)) {
+                if (signs[from + i] != other.signs[otherFrom + i]) {
                     return false;
                 }
             }
             return true;
         }
 
-        /** How long the row of letters (else of digits) at from is; what lies beyond most + 1 is not looked at. */
+        /** How many letters (else digits) stand in a row at from; beyond most + 1 they are not looked at. */
         int rowAt(int from, boolean letters, int most) {
             for (int i = 0; i <= most; i++) {
                 int sign = at(from + i);
@@ -681,7 +700,7 @@ public final class SyntaxRules {
 
         private boolean passComment() {
             for (int i = at + 1; i < text.length; i++) {
-                int sign = text.at(i);
+                int sign = text.signs[i];
                 if (sign == ']') {
                     addComment(i + 1);
                     return true;
@@ -717,20 +736,19 @@ public final class SyntaxRules {
             for (int i = 0; i < many && a != b; i++) {
                 int x = a + i;
                 int y = b + i;
-                if (kind[x] != kind[y] || parts[x] != parts[y] || nameLength[x] != nameLength[y]) {
+                if (kind[x] != kind[y] || parts[x] != parts[y] || nameLength[x] != nameLength[y]
+                    || !text.sameRow(nameAt[x], text, nameAt[y], nameLength[x])) {
                     return false;
-                }
-                for (int k = 0; k < nameLength[x]; k++) {
-                    if (text.signs[nameAt[x] + k] != text.signs[nameAt[y] + k]) {
-                        return false;
-                    }
                 }
             }
             return true;
         }
 
-        boolean isNamed(int node, Text other, int from, int many) {
-            return nameLength[node] == many && text.sameSigns(nameAt[node], other, from, many);
+        /** Whether a NODE's WORD, NUMBER or HEAD is the one of an item. */
+        boolean isNamed(int node, Rule rule, int item) {
+            int many = nameLength[node];
+            return many == rule.wordLength[item]
+                && text.sameRow(nameAt[node], rule.text, rule.wordAt[item], many);
         }
 
         int partOf(int node, int which) {
@@ -810,13 +828,13 @@ public final class SyntaxRules {
 
         int singlesBehind(int item) {
             int above = parent[item];
-            return above == NONE ? 0 : parts[above] - part[item] - 1 - rowsBehind(item);
+            return above == NONE ? 0 : parts[above] - part[item] - 1 - (rows[above] - rowsSoFar[item]);
         }
 
         boolean sameWord(int item, Rule other, int otherItem) {
             int many = wordLength[item];
             return many == other.wordLength[otherItem]
-                && text.sameSigns(wordAt[item], other.text, other.wordAt[otherItem], many);
+                && text.sameRow(wordAt[item], other.text, other.wordAt[otherItem], many);
         }
 
         boolean sameTokens(int item, Rule other, int otherItem) {
@@ -873,14 +891,19 @@ public final class SyntaxRules {
             deepsRead = 0;
             singleHoles = 0;
             rowHoles = 0;
-            return readSides() ? rule : null;
+            inPut = false;
+            if (!readSide() || !passEquals()) {
+                return null;
+            }
+            inPut = true;
+            if (!readSide()) {
+                return null;
+            }
+            passBlanks();
+            return at == text.length ? rule : null;
         }
 
-        private boolean readSides() {
-            inPut = false;
-            if (!readSide()) {
-                return false;
-            }
+        private boolean passEquals() {
             rule.patternEnd = rule.items;
             rule.holeBits = singleHoles | rowHoles;
             passBlanks();
@@ -888,12 +911,7 @@ public final class SyntaxRules {
                 return false;
             }
             at++;
-            inPut = true;
-            if (!readSide()) {
-                return false;
-            }
-            passBlanks();
-            return at == text.length;
+            return true;
         }
 
         private boolean readSide() {
@@ -1089,20 +1107,11 @@ public final class SyntaxRules {
         int fittingRules(Source itsSource, Rule[] rules, int node) {
             int bits = 0;
             for (int i = 0; i < MOST_RULES; i++) {
-                if (rules[i] != null && fits(itsSource, rules[i], node)) {
+                if (rules[i] != null && search(itsSource, rules[i], 0, node, 1) > 0) {
                     bits |= 1 << i;
                 }
             }
             return bits;
-        }
-
-        int leastRule(Source itsSource, Rule[] rules, int node) {
-            for (int i = 0; i < MOST_RULES; i++) {
-                if (rules[i] != null && fits(itsSource, rules[i], node)) {
-                    return i;
-                }
-            }
-            return NONE;
         }
 
         int firstHeld(int item) {
@@ -1121,39 +1130,52 @@ public final class SyntaxRules {
             int end = base + rule.span[base];
             int found = 0;
             int item = base;
+            boolean isNew = true;
             for (int steps = 0; steps < MOST_STEPS && item != NONE; steps++) {
-                if (item == end) {
+                boolean stands = (!isNew || enter(item, node)) && isAsBefore(item);
+                if (stands && item + 1 == end) {
                     found++;
                     if (found >= most) {
                         return found;
                     }
-                    item = nextChoice();
-                } else {
-                    reach(item, node);
-                    item = enter(item) ? item + 1 : nextChoice();
                 }
+                isNew = stands && item + 1 < end;
+                item = isNew ? item + 1 : nextChoice();
             }
             return found;
         }
 
+        /** The latest item that can still choose otherwise, having done so; or NONE. */
         private int nextChoice() {
             for (int i = choicesOpen - 1; i >= 0; i--) {
                 if (choosesMore(choices[i])) {
-                    return choices[i] + 1;
+                    return choices[i];
                 }
                 choicesOpen = i;
             }
             return NONE;
         }
 
+        private boolean choosesMore(int item) {
+            if (rule.op[item] == Rule.DEEP) {
+                at[item]++;
+                return at[item] < next[item];
+            }
+            if (left[item] <= rule.singlesBehind(item)) {
+                return false;
+            }
+            takePart(item);
+            return true;
+        }
+
         /** Finds where an item begins to take, and how many PARTS there are for it and those behind. */
         private void reach(int item, int node) {
-            if (item == base) {
+            int above = item == base ? NONE : rule.parent[item];
+            if (above == NONE) {
                 start = node;
                 room = 1;
                 return;
             }
-            int above = rule.parent[item];
             int before = rule.before[item];
             if (rule.op[above] == Rule.DEEP) {
                 start = at[above];
@@ -1167,7 +1189,8 @@ public final class SyntaxRules {
             }
         }
 
-        private boolean enter(int item) {
+        private boolean enter(int item, int node) {
+            reach(item, node);
             if (rule.op[item] == Rule.ROW) {
                 return enterRow(item);
             }
@@ -1179,21 +1202,14 @@ public final class SyntaxRules {
             rowLength[item] = 1;
             next[item] = start + source.size[start];
             left[item] = room - 1;
+            boolean isTerm = source.kind[start] == KIND_TERM;
             switch (rule.op[item]) {
-                case Rule.HOLE: return isOfKind(item) && isAsBefore(item);
+                case Rule.HOLE: return rule.kind[item] == NONE || rule.kind[item] == source.kind[start];
                 case Rule.DEEP: return openChoice(item);
-                case Rule.LITERAL: return source.kind[start] != KIND_TERM && isNamed(item);
-                case Rule.TERM: return source.kind[start] == KIND_TERM && isNamed(item) && hasParts(item);
+                case Rule.LITERAL: return !isTerm && source.isNamed(start, rule, item);
+                case Rule.TERM: return isTerm && source.isNamed(start, rule, item) && hasParts(item);
                 default: return true;
             }
-        }
-
-        private boolean isOfKind(int item) {
-            return rule.kind[item] == NONE || rule.kind[item] == source.kind[start];
-        }
-
-        private boolean isNamed(int item) {
-            return source.isNamed(start, rule.text, rule.wordAt[item], rule.wordLength[item]);
         }
 
         private boolean hasParts(int item) {
@@ -1217,14 +1233,13 @@ public final class SyntaxRules {
             next[item] = start;
             left[item] = room;
             if (rule.rowsBehind(item) > 0) {
-                openChoice(item);
-                return isAsBefore(item) || choosesMore(item);
+                return openChoice(item);
             }
             int taken = room - rule.singlesBehind(item);
             for (int i = 0; i < taken; i++) {
                 takePart(item);
             }
-            return isAsBefore(item);
+            return true;
         }
 
         private void takePart(int item) {
@@ -1234,24 +1249,9 @@ public final class SyntaxRules {
             rowLength[item]++;
         }
 
-        private boolean choosesMore(int item) {
-            if (rule.op[item] == Rule.DEEP) {
-                at[item]++;
-                return at[item] < next[item];
-            }
-            int more = left[item] - rule.singlesBehind(item);
-            for (int i = 0; i < more; i++) {
-                takePart(item);
-                if (isAsBefore(item)) {
-                    return true;
-                }
-            }
-            return false;
-        }
-
         /** Whether an L holds what is ALIKE with what it held first. */
         private boolean isAsBefore(int item) {
-            int first = rule.standing(base, rule.hole[item]);
+            int first = rule.hole[item] == NONE ? item : rule.standing(base, rule.hole[item]);
             if (first == NONE || first == item) {
                 return true;
             }
@@ -1421,17 +1421,13 @@ public final class SyntaxRules {
                 return false;
             }
             switch (type[test]) {
-                case HEAD: return source.kind[there] == KIND_TERM && isWordOf(its, i, source, there);
+                case HEAD: return source.kind[there] == KIND_TERM && source.isNamed(there, its, i);
                 case PARTS: return source.parts[there] == its.parts[i];
                 case KIND: return source.kind[there] == its.kind[i];
                 case ALIKE: return isTwin(source, there, follow(its, other[test], source, node));
                 case FITS: return fitting.search(source, its, i, there, 1) > 0;
-                default: return source.kind[there] != KIND_TERM && isWordOf(its, i, source, there);
+                default: return source.kind[there] != KIND_TERM && source.isNamed(there, its, i);
             }
-        }
-
-        private static boolean isWordOf(Rule its, int i, Source source, int there) {
-            return source.isNamed(there, its.text, its.wordAt[i], its.wordLength[i]);
         }
 
         private static boolean isTwin(Source source, int a, int b) {
@@ -1461,17 +1457,20 @@ public final class SyntaxRules {
         final int[] editNode = new int[MOST_NODES];
         /** The RULE by which a NODE is an EDIT, or NONE. */
         final int[] ruleAt = new int[MOST_NODES];
+        /** The RULES that FIT a NODE. */
+        final int[] fitBits = new int[MOST_NODES];
         private final boolean[] hasEdit = new boolean[MOST_NODES];
 
         void lay(Source source, Rule[] rules, int way, Fitting fitting) {
             for (int i = 0; i < source.nodes; i++) {
+                fitBits[i] = fitting.fittingRules(source, rules, i);
                 ruleAt[i] = NONE;
                 hasEdit[i] = false;
             }
             if (way == OUTSIDE) {
-                fromOutside(source, rules, fitting);
+                fromOutside(source);
             } else {
-                fromInside(source, rules, fitting);
+                fromInside(source);
             }
             // EDITS never lie in one another, so that by numbers they are in the order of their PLACES.
             edits = 0;
@@ -1483,22 +1482,22 @@ public final class SyntaxRules {
             }
         }
 
-        private void fromOutside(Source source, Rule[] rules, Fitting fitting) {
+        private void fromOutside(Source source) {
             int free = 0;
             for (int i = 0; i < source.nodes; i++) {
-                if (i >= free) {
-                    ruleAt[i] = fitting.leastRule(source, rules, i);
-                    free = ruleAt[i] == NONE ? i : i + source.size[i];
+                if (i >= free && fitBits[i] != 0) {
+                    ruleAt[i] = Integer.numberOfTrailingZeros(fitBits[i]);
+                    free = i + source.size[i];
                 }
             }
         }
 
         /** What is in a NODE has higher numbers: going down by numbers it is settled ahead of the NODE. */
-        private void fromInside(Source source, Rule[] rules, Fitting fitting) {
+        private void fromInside(Source source) {
             for (int i = source.nodes - 1; i >= 0; i--) {
-                if (!hasEdit[i]) {
-                    ruleAt[i] = fitting.leastRule(source, rules, i);
-                    hasEdit[i] = ruleAt[i] != NONE;
+                if (!hasEdit[i] && fitBits[i] != 0) {
+                    ruleAt[i] = Integer.numberOfTrailingZeros(fitBits[i]);
+                    hasEdit[i] = true;
                 }
                 if (hasEdit[i] && source.parent[i] != NONE) {
                     hasEdit[source.parent[i]] = true;
@@ -1521,7 +1520,6 @@ public final class SyntaxRules {
         private int latest;
         private boolean atSeam;
         private final Text out = new Text();
-        private final int[] one = new int[1];
         private final int[] heldFrom = new int[2 * MOST_ITEMS];
         private final int[] heldBehind = new int[2 * MOST_ITEMS];
 
@@ -1539,23 +1537,13 @@ public final class SyntaxRules {
             return out;
         }
 
-        void writeAll(Source source, Rule[] rules, Walk walk, Fitting fitting) {
-            clear(NONE);
-            int from = 0;
-            for (int i = 0; i < walk.edits; i++) {
-                int node = walk.editNode[i];
-                Rule rule = rules[walk.ruleOf(i)];
-                putRow(source.text.signs, from, source.begin[node]);
-                atSeam = true;
-                writeEdit(source, rule, node, fitting);
-                atSeam = true;
-                from = source.behind[node];
-            }
-            putRow(source.text.signs, from, source.text.length);
+        /** Here a blank is put, where else two rows of letters, of digits would become one. */
+        void putSeam() {
+            atSeam = true;
         }
 
+        /** The WAY that the fitting found last tells what is HELD. */
         void writeEdit(Source source, Rule rule, int node, Fitting fitting) {
-            fitting.fits(source, rule, node);
             for (int i = rule.patternEnd; i < rule.items; i++) {
                 findHeld(source, rule, i, fitting);
             }
@@ -1564,7 +1552,7 @@ public final class SyntaxRules {
                 int behind = begin + source.commentLength[i];
                 boolean inPlace = begin >= source.begin[node] && behind <= source.behind[node];
                 if (inPlace && !isHeld(rule, begin, behind)) {
-                    putRow(source.text.signs, begin, behind);
+                    putRow(source.text, begin, behind);
                     putSign(BLANK);
                     carried++;
                 }
@@ -1599,12 +1587,12 @@ public final class SyntaxRules {
                     putSign(BLANK);
                 }
                 if (isHole) {
-                    putRow(source.text.signs, heldFrom[i], heldBehind[i]);
+                    putRow(source.text, heldFrom[i], heldBehind[i]);
                 } else {
                     if (rule.op[i] == Rule.TERM) {
                         putSign('(');
                     }
-                    putRow(rule.text.signs, rule.wordAt[i], rule.wordAt[i] + rule.wordLength[i]);
+                    putRow(rule.text, rule.wordAt[i], rule.wordAt[i] + rule.wordLength[i]);
                 }
                 closeTerms(rule, i);
             }
@@ -1624,26 +1612,18 @@ public final class SyntaxRules {
             }
         }
 
-        private void putSign(int sign) {
-            one[0] = sign;
-            putRow(one, 0, 1);
+        void putRow(Text text, int from, int behind) {
+            for (int i = from; i < behind; i++) {
+                putSign(text.at(i));
+            }
         }
 
-        private void putRow(int[] signs, int from, int behind) {
-            if (from >= behind) {
-                return;
-            }
-            if (atSeam && clash(latest, signs[from])) {
+        private void putSign(int sign) {
+            if (atSeam && (isLetter(latest) && isLetter(sign) || isDigit(latest) && isDigit(sign))) {
                 append(BLANK);
             }
             atSeam = false;
-            for (int i = from; i < behind; i++) {
-                append(signs[i]);
-            }
-        }
-
-        private static boolean clash(int a, int b) {
-            return isLetter(a) && isLetter(b) || isDigit(a) && isDigit(b);
+            append(sign);
         }
 
         private void append(int sign) {
