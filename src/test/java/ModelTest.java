@@ -3,7 +3,7 @@ import java.util.Random;
 
 /** Runs of random calls, each answered by the program and by the Model: they must agree. */
 public final class ModelTest {
-    private static final int EXTREMES[] = {Integer.MIN_VALUE, -1001, -2, -1, 8, 26, 300, Integer.MAX_VALUE};
+    private static final int[] EXTREMES = {Integer.MIN_VALUE, -1001, -2, -1, 8, 26, 300, Integer.MAX_VALUE};
 
     private final Random random;
     private final SyntaxRules program = new SyntaxRules();

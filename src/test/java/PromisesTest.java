@@ -39,6 +39,7 @@ public final class PromisesTest {
         keep();
         again();
         count();
+        fullHouse();
         Desk.close("PromisesTest");
     }
 
@@ -179,6 +180,8 @@ public final class PromisesTest {
         due("first", d.rule("a = b"), 0);
         due("text empty", d.x.count(4), 0);
         due("no blanks", d.rule("(f?A*B)=(g?A*B)"), 1);
+        due("longest words", d.rule("(abcdefgh zyxwvuts 1234) = (abcdefgh 0000)"), 2);
+        d.x.drop(2);
         due("many blanks", d.rule("  ( f  ?A:n  _  ^  1 )  =  ( g  ?A  )  "), 2);
         due("a hole and a word", d.rule("(f?Ab?B:nw)=?Ac"), -1014);
         due("a hole and a word side by side", d.rule("(f?Ab?B:nw)=(f?Ac)"), 3);
@@ -379,6 +382,8 @@ public final class PromisesTest {
         due("the least a", d.x.twins(6, 1), 2);
         due("b", d.x.twins(3, 0), 1);
         due("itself", d.x.twins(3, 1), 3);
+        due("the outermost", d.x.twins(0, 0), 1);
+        due("the outermost, itself", d.x.twins(0, 1), 0);
         due("what 2", d.x.twins(3, 2), -1);
         due("what -1", d.x.twins(3, -1), -1);
         due("no such", d.x.twins(7, 0), -1);
@@ -514,6 +519,7 @@ public final class PromisesTest {
         due("-2", d.x.found(0, -2), -1);
         due("most", d.x.found(0, MAX), -1);
         due("none", d.x.found(1, -1), 0);
+        due("the outermost", Desk.with("(f a)", "(f _) = b").x.found(0, 0), 0);
         due("the first of none", d.x.found(1, 0), -1);
         due("no such rule", d.x.found(2, -1), -1);
         due("rule -1", d.x.found(-1, -1), -1);
@@ -562,6 +568,11 @@ public final class PromisesTest {
         checkTests(6, 4, "(f ^a _) = b", "(f _ ^a) = c");
         checkTests(10, 6, "(f (g a) _) = b", "(f (g b) _) = c");
         checkTests(14, 8, "(f a 1) = b", "(f a 2) = b", "(f b 1) = b", "a = c", "a = 1");
+        checkTests(4, 3, "a = 1", "b = 1", "c = 1", "b = 2");
+        checkTests(4, 3, "a = 1", "b = 1", "c = 1", "a = 2");
+        checkTests(4, 3, "a = 1", "b = 1", "c = 1", "c = 2");
+        checkTests(12, 5, "(f a) = 1", "(f b) = 1", "(f c) = 1", "(f b) = 2");
+        checkTests(12, 5, "(f a) = 1", "(f b) = 1", "(f c) = 1", "(f a) = 2");
         Desk d = Desk.with("a", "a = b", "(f a) = c", "(f a b) = c");
         due("three", d.x.tests(1), 1 + 3 + 3);
         d.x.drop(1);
@@ -590,6 +601,17 @@ public final class PromisesTest {
         due("nothing below what is not so", g.x.asked(0), 7);
         Desk h = Desk.with("(f (g 1 2) (g 1 2))", "(f (g ?A ?B) (g ?A ?B)) = 1");
         due("deep paths", h.x.asked(0), 8);
+        String[] rows = {"(f (g 2 1) b c)", "(f (g 2) b c)", "(f (g 1) c c)", "(h (g 1) b c)", "f", "(f (g 1) b)"};
+        int[] want = {5, 3, 4, 1, 1, 2};
+        for (int k = 0; k < rows.length; k++) {
+            due("head, parts, a ( ) with a row, b, 7 asked of " + rows[k], Desk.with(rows[k], "(f (g *A 1) b 7) = 1").x.asked(0), want[k]);
+        }
+        due("alike is not so", Desk.with("(f 1 2 3)", "(f ?A ?A 3) = 1").x.asked(0), 3);
+        due("alike is so", Desk.with("(f 1 1 2)", "(f ?A ?A 3) = 1").x.asked(0), 4);
+        due("^ is not so", Desk.with("(f (g 2) 3)", "(f ^1 3) = 1").x.asked(0), 3);
+        due("^ is so", Desk.with("(f (g 1) 4)", "(f ^1 3) = 1").x.asked(0), 4);
+        due("which part of which", Desk.with("(f a (g b (h c d)))", "(f a (g b (h c d))) = 1").x.asked(0), 10);
+        due("which part of which, ended", Desk.with("(f a (g b (h c d)))", "(f a (g b (h d c))) = 1").x.asked(0), 9);
         Desk i = Desk.with("(f (g 1 2) (g 1 2))", "(f (g ?A 3) (g ?A 2)) = 1");
         due("deep paths, ended", i.x.asked(0), 5);
     }
@@ -608,6 +630,9 @@ public final class PromisesTest {
         due("inside, node of the second", d.x.edit(1, 1, 1), 3);
         due("inside, rule of the second", d.x.edit(1, 1, 0), 2);
         due("the third", d.x.edit(1, 2, 0), -1);
+        due("the third, its node", d.x.edit(1, 2, 1), -1);
+        due("the third, its signs", d.x.edit(1, 2, 2), -1);
+        due("the third, its comments", d.x.edit(1, 2, 3), -1);
         due("what 4", d.x.edit(1, 0, 4), -1);
         due("what -1", d.x.edit(1, 0, -1), -1);
         due("-1 1", d.x.edit(1, -1, 1), -1);
@@ -624,6 +649,7 @@ public final class PromisesTest {
         due("second, inside", e.x.edit(1, 1, 1), 5);
         Desk g = Desk.with("[0](f[1]a[2]b[3](g[4]c)[5])[6]", "(f ?A *B) = (h *B)");
         due("carried", g.x.edit(0, 0, 3), 3);
+        due("carried, asked again", g.x.edit(0, 0, 3), 3);
         due("signs", g.x.edit(0, 0, 2), "[1] [2] [5] (h b[3](g[4]c))".length());
         due("none", Desk.with("a", "b = c").x.edit(0, -1, 0), 0);
         due("signs without the blank that is put beside", Desk.with("(f(g)b)", "(g) = a").x.edit(0, 0, 2), 1);
@@ -650,6 +676,9 @@ public final class PromisesTest {
         due("the first standing is put", written("(f (g[1]a) (g[2]a))", "(f ?A ?A) = ?A"), "[2] (g[1]a)");
         due("out of the depth", written("(f (g (h[1]1)[2]))", "^ (h ?A) = ?A"), "[1] [2] 1");
         due("itself", written("(f[1]a)", "?A = (g ?A)"), "(g (f[1]a))");
+        Desk two = Desk.with("(k (f (g[1]a) b) (h[2]1))", "(f ?A *B) = (m ?A *B)", "(h *A 1) = (n 5 *A)");
+        due("first of two rules", two.comes(0, 0), "(m (g[1]a) b)");
+        due("nothing stays of the first", two.comes(0, 1), "[2] (n 5)");
         Desk d = Desk.with("(f a b)", "a = cd", "b = 1");
         due("second edit", d.comes(0, 1), "1");
         due("behind", d.x.comes(0, 0, 2), -1);
@@ -682,6 +711,11 @@ public final class PromisesTest {
         due("way 2", d.x.conflicts(2, 0), -1);
         due("way -1", d.x.conflicts(-1, 0), -1);
         due("no rules", new Desk().x.conflicts(0, 0), 0);
+        Desk e = Desk.with("(f a b)", "z = 1", "a = 2", "b = 3", "?A:w = 4");
+        due("one rule alone does not count", Desk.with("(f a b)", "a = 2").x.conflicts(0, 1), 0);
+        due("two edits of two rules each", e.x.conflicts(0, 1), 2);
+        due("a rule that fits nothing does not count", e.x.conflicts(0, 2), 8);
+        due("no node left", e.x.conflicts(0, 0), 0);
     }
 
     private static void would() {
@@ -772,6 +806,8 @@ public final class PromisesTest {
     private static void rounds() {
         promise(25);
         Desk d = Desk.with("(s (s (s z)))", "(s ?A) = ?A");
+        due("one", d.x.rounds(0, 1), 1);
+        due("undone", d.x.undo(), 1);
         due("two", d.x.rounds(0, 2), 2);
         due("text", d.text(), "(s z)");
         due("one step for undo", d.x.count(5), 2);
@@ -908,6 +944,10 @@ public final class PromisesTest {
         d.x.apply(0);
         due("again", d.x.again(1), true);
         due("kept yet", d.x.count(3), 2);
+        d.x.keep(0);
+        d.source("q");
+        due("0", d.x.again(0), true);
+        due("text of 0", d.text(), "(f[x] a)");
         due("a rule takes the number", d.x.end(0) ? d.rule("x = y") : -9, 1);
     }
 
@@ -923,6 +963,43 @@ public final class PromisesTest {
         due("count -1", d.x.count(-1), -1);
         due("count least", d.x.count(MIN), -1);
         due("one alone", new Desk().x.count(6), 1);
+        d.source("a");
+        due("nothing stays of a deeper one", d.x.count(6), 1);
         due("17", Desk.with(Desk.many("(f", 16) + " a" + Desk.many(")", 16)).x.count(6), 17);
+    }
+
+    /** All that there may be at once: 60 NODES, 8 RULES, 20 of a PATTERN and of a PUT within one another. */
+    private static void fullHouse() {
+        Desk.promise = "at the bounds";
+        String full = "(f" + Desk.many("(g" + Desk.many(" a", 11) + ")", 4) + Desk.many(" a", 7) + "(h a a a))";
+        Desk d = Desk.with(full, "z = 1", "(q *A *B) = 1", "y = 1", "x = 1", "w = 1", "v = 1", "u = 1", "a = b");
+        due("nodes", d.x.count(0), 60);
+        due("twins of a", d.x.twins(59, 0), 54);
+        due("twins of g", d.x.twins(37, 0), 4);
+        due("found", d.x.found(7, -1), 54);
+        due("the last found", d.x.found(7, 53), 59);
+        due("behind the last", d.x.found(7, 54), -1);
+        due("rules", d.x.rulesOf(59), 128);
+        due("edits", d.x.edit(0, -1, 0), 54);
+        due("edits from inside", d.x.edit(1, -1, 0), 54);
+        due("the last edit", d.x.edit(1, 53, 1), 59);
+        due("asked", d.x.asked(59), 8);
+        due("within", d.x.count(6), 3);
+        due("apply", d.x.apply(1), 54);
+        due("text", d.text(), full.replace("a", "b"));
+        String deepest = Desk.many("(f", 20) + Desk.many(")", 20);
+        Desk e = Desk.with("a", "a = " + deepest, deepest + " = a", Desk.many("(f", 19) + " ?A" + Desk.many(")", 19) + " = ?A");
+        due("20 within one another", e.comes(0, 0), deepest.replace("f(", "f ("));
+        due("tests", e.x.tests(0), 1 + 40 + 38);
+        due("shared", e.x.tests(1), 1 + 40);
+        due("can't be", e.x.apply(0), -3);
+        String inside = Desk.many("(f", 15) + "(f)" + Desk.many(")", 15);
+        due("asked to the bottom", Desk.with(inside, deepest + " = a").x.asked(0), 32);
+        Desk g = Desk.with("(f a)");
+        for (int i = 0; i < 8; i++) {
+            g.rule("(f" + Desk.many(" ?A:n", 19 - i) + ") = ?A");
+        }
+        due("8 rules of the most tests", g.x.tests(0), (39 + 37 + 35 + 33 + 31 + 29 + 27 + 25));
+        due("8 rules of the most tests, shared", g.x.tests(1), (39 + 37 + 35 + 33 + 31 + 29 + 27 + 25) - 7);
     }
 }
