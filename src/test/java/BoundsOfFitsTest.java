@@ -19,7 +19,9 @@ public final class BoundsOfFitsTest {
         firstWay();
         firstStanding();
         orderOfTests();
+        testsOfSigns();
         testsOfTerms();
+        eachAtItsPath();
         testsOfHoles();
         testsOfRows();
         testsOfDeep();
@@ -261,12 +263,21 @@ public final class BoundsOfFitsTest {
         checkAsked(4, "(f (g) a)", "(f (g 2) a)");
     }
 
-    private static void testsOfTerms() {
-        says("of ( WORD .. ) that it is of KIND c with that HEAD, then that it has as many PARTS, if there is no *L in it;");
-        checkTold("(f)", 2);
+    private static void testsOfSigns() {
+        says("of a WORD, NUMBER at a PATH that it is just that;");
         checkTold("a", 1);
         checkTold("12", 1);
         checkTold("_", 0);
+        checkTold("(f a 1)", 4);
+        checkAsked(3, "(f (a) b)", "(f a c)");
+        checkAsked(3, "(f aa b)", "(f a c)");
+        checkAsked(3, "(f 01 b)", "(f 1 c)");
+        checkAsked(4, "(f 01 b)", "(f 01 c)");
+    }
+
+    private static void testsOfTerms() {
+        says("of ( WORD .. ) that it is of KIND c with that HEAD, then that it has as many PARTS, if there is no *L in it;");
+        checkTold("(f)", 2);
         checkTold("(f _)", 2);
         checkTold("(f (g) (h))", 6);
         checkTold(Desk.many("(f", 20) + Desk.many(")", 20), 40);
@@ -275,6 +286,14 @@ public final class BoundsOfFitsTest {
         checkAsked(2, "(f)", "(f a)");
         checkAsked(2, "(f a a)", "(f a)");
         checkAsked(3, "(f b)", "(f a)");
+    }
+
+    private static void eachAtItsPath() {
+        says("then those of what is in it, each at its own PATH;");
+        checkTold("(f _ (g 1 ?A:n) b)", 7);
+        checkAsked(6, "(f 9 (g 1 b) c)", "(f _ (g 1 ?A:n) b)");
+        checkAsked(7, "(f 9 (g 1 2) c)", "(f _ (g 1 ?A:n) b)");
+        checkAsked(5, "(f 1 (g 9 1) b)", "(f _ (g 1 ?A:n) b)");
     }
 
     private static void testsOfHoles() {

@@ -222,7 +222,15 @@ public final class BoundsOfPromisesTest {
         }
         due("the NODE of 0", new Desk().x.node(0, 1), NONE);
         due("which PART is 0", new Desk().x.node(0, 2), NONE);
+        says(7, "how many PARTS (3), where its PLACE begins (4), how many signs it has (5), how many NODES are in it, itself, too (6), within how many it lies (7).");
         due("the 12th PART", Desk.with("(f" + Desk.many(" a", 12) + ")").x.node(12, 2), 11);
+        due("12 PARTS", Desk.with("(f" + Desk.many(" a", 12) + ")").x.node(0, 3), 12);
+        due("no PARTS", Desk.with("(f)").x.node(0, 3), 0);
+        due("it begins at 299", Desk.with(Desk.many(" ", 299) + "a").x.node(0, 4), 299);
+        due("it has 300 signs", Desk.with("(f" + Desk.many("\n", 297) + ")").x.node(0, 5), 300);
+        due("60 are in it", Desk.with(SIXTY).x.node(0, 6), 60);
+        due("itself alone", new Desk().x.node(0, 6), 1);
+        due("within none", new Desk().x.node(0, 7), 0);
         due("within 16", Desk.with(Desk.many("(f", 16) + " a" + Desk.many(")", 16)).x.node(16, 7), 16);
         says(7, "NoSuchElementException: no such NODE; NONE: others.");
         for (int n : Desk.FAR) {
@@ -694,6 +702,14 @@ public final class BoundsOfPromisesTest {
     }
 
     private static void after() {
+        says(26, "On paper: of rounds() what its last one would leave:");
+        Desk paper = Desk.with("(s (s z))", "(s ?A) = ?A");
+        String before = paper.state();
+        for (int what = 0; what <= 2; what++) {
+            paper.x.after(0, 6, what);
+            paper.x.after(1, 1, what);
+        }
+        due("nothing changes", paper.state(), before);
         says(26, "how many signs the SOURCE has (what 0), EDITS there are then (1), 1 if a SOURCE comes that was there ahead in them (the one now, too; sign by sign), else 0 (2). NONE: no such WAY, n, others.");
         int[] signs = {13, 9, 5, 1, 1, 1};
         int[] edits = {1, 1, 1, 0, 0, 0};

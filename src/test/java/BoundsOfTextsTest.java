@@ -14,10 +14,13 @@ public final class BoundsOfTextsTest {
         nodes();
         parts();
         open();
+        kinds();
         places();
         atFirst();
+        sides();
         tokens();
         blanksOfRule();
+        patterns();
         lettersAndKinds();
         puts();
         itemsOfPattern();
@@ -219,6 +222,15 @@ public final class BoundsOfTextsTest {
         checkSourceFault(many("(f", 15) + "(f)(f)(f" + "(f", 30 + 3 + 3 + 2);
     }
 
+    private static void kinds() {
+        says("KINDS: n a NUMBER, w a WORD, c one in ( ).");
+        Desk d = Desk.with("(f 0 a (g) 9999 zzzzzzzz)");
+        int[] want = {2, 0, 1, 2, 0, 1};
+        for (int n = 0; n < 6; n++) {
+            Desk.due("KIND of " + n, d.x.node(n, 0), want[n]);
+        }
+    }
+
     private static void places() {
         says("The PLACE of a NODE: from its first sign to its last.");
         Desk d = Desk.with(" [x] (f  abc [y](g[z])  12 ) \n");
@@ -235,6 +247,19 @@ public final class BoundsOfTextsTest {
         Desk.due("NODES", d.x.count(0), 1);
         Desk.due("KIND", d.x.node(0, 0), 1);
         Desk.due("its name", d.name(0), "a");
+    }
+
+    private static void sides() {
+        says("RULE: PATTERN = PUT.");
+        checkRule("a=b", 0);
+        checkRuleFault("a b", 2);
+        checkRuleFault("= b", 0);
+        checkRuleFault("a =", 3);
+        checkRuleFault("a == b", 3);
+        checkRuleFault("a = b = c", 6);
+        checkRuleFault("a = b c", 6);
+        checkRuleFault("(f) (g) = c", 4);
+        checkRuleFault("(f = c", 3);
     }
 
     private static void tokens() {
@@ -262,6 +287,23 @@ public final class BoundsOfTextsTest {
         checkRuleFault("a = b\n", 5);
         checkRuleFault("(f\n) = b", 2);
         checkRuleFault("a =[x] b", 3);
+    }
+
+    private static void patterns() {
+        says("PATTERN: _ | ?L [:K] | ^ PATTERN | WORD | NUMBER | ( WORD {PATTERN | *L} ).");
+        String[] patterns = {"_", "?A", "?A:w", "^ _", "^ ?A:c", "^ (f *A)", "a", "0", "(f)", "(f _ ?A ^ (g *B *C) b 1 (h))"};
+        for (String p : patterns) {
+            checkRule(p + " = b", 0);
+            checkRule("(f " + p + ") = b", 0);
+            checkRuleFault(p + " " + p + " = b", p.length() + 1);
+        }
+        checkRuleFault("*A = b", 0);
+        checkRuleFault("^ = b", 2);
+        checkRuleFault("(f ^) = b", 4);
+        checkRuleFault("(f ^ *A) = b", 5);
+        checkRuleFault("_:n = b", 1);
+        checkRuleFault("(f *A:n) = b", 5);
+        checkRuleFault("(_) = b", 1);
     }
 
     private static void lettersAndKinds() {

@@ -16,6 +16,7 @@ public final class BoundsOfWalksTest {
         allElseStays();
         blanksBeside();
         oneBlankAlone();
+        thenTheSource();
         mostSigns();
         bounds();
         textIsEmptied();
@@ -219,6 +220,16 @@ public final class BoundsOfWalksTest {
         checkApplied("(f a a)", "(f (g) (g))", "(g) = a");
         Desk d = Desk.with("(f(g)(g))", "(g) = a");
         Desk.due("signs without blanks that are put beside", d.x.edit(OUTSIDE, 0, 2) + d.x.edit(OUTSIDE, 1, 2), 2);
+    }
+
+    private static void thenTheSource() {
+        says("what comes is the SOURCE then.");
+        Desk d = Desk.with("(f[x] a b)", "a = (g 1)");
+        d.x.apply(OUTSIDE);
+        Desk.due("signs, NODES, COMMENTS, most within", d.x.count(1) + " " + d.x.count(0) + " " + d.x.count(2) + " " + d.x.count(6), "14 4 1 3");
+        Desk.due("a new NODE", d.name(1) + d.name(2), "g1");
+        Desk.due("the one behind", d.name(3) + d.x.node(3, 4), "b12");
+        Desk.due("no EDIT more", d.x.edit(OUTSIDE, -1, 0), 0);
     }
 
     /** A SOURCE of n signs that ends in (g)) with a letter right ahead of the (g). */

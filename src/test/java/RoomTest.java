@@ -27,7 +27,7 @@ public final class RoomTest {
         Desk d = Desk.with("(f (g a[x] 1) (g a 1) b (h c (f 1 2 3)))", "(f *A ?B *C) = (f *A (g ?B) *C)",
             "(g ?A ?B) = (h ?B ?A)", "^ a = b", "?A:n = 7", "(h *A) = (k *A *A)");
         before = made();
-        for (int i = 0; i < 20; i++) {
+        for (int i = 0; i < 14; i++) {
             everyCall(d.x, i);
         }
         long calls = made() - before;
