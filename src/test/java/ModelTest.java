@@ -9,11 +9,14 @@ public final class ModelTest {
     private final SyntaxRules program = new SyntaxRules();
     private final Model model = new Model();
     private final StringBuilder log = new StringBuilder();
+    /** Whether this run has SOURCES and RULES about as large as they may be. */
+    private final boolean atBounds;
     private int calls;
     private boolean wrong;
 
     private ModelTest(long seed) {
         random = new Random(seed);
+        atBounds = chance(35);
     }
 
     public static void main(String[] args) {
@@ -65,11 +68,18 @@ public final class ModelTest {
     }
 
     private void run() {
+        enterSource();
+        for (int i = pick(5); i >= 0; i--) {
+            enterRule();
+        }
         while (calls < 480 && !wrong) {
-            switch (pick(10)) {
-                case 0: enterSource(); break;
-                case 1: case 2: enterRule(); break;
-                default: oneCall();
+            int which = pick(100);
+            if (which < 2) {
+                enterSource();
+            } else if (which < 9) {
+                enterRule();
+            } else {
+                oneCall();
             }
         }
     }
@@ -94,9 +104,10 @@ public final class ModelTest {
     }
 
     private void enterSource() {
-        nodesLeft = 1 + pick(chance(20) ? 75 : chance(50) ? 30 : 8);
-        dense = chance(40);
-        String text = layout() + term(0) + layout();
+        nodesLeft = atBounds ? 40 + pick(25) : 1 + pick(chance(20) ? 75 : chance(50) ? 30 : 8);
+        dense = chance(atBounds ? 80 : 40);
+        String text = layout() + (atBounds && chance(30) ? deepTerm() : term(0)) + layout();
+        text = atBounds && chance(50) ? pad(text) : text;
         type(chance(15) ? spoil(text) : text);
         int got = program.source();
         faults += got <= -1000 ? 1 : 0;
@@ -125,6 +136,23 @@ public final class ModelTest {
             case 2: return at == text.length() ? text : text.substring(0, at) + text.substring(at + 1);
             default: return at == text.length() ? text : text.substring(0, at) + sign + text.substring(at + 1);
         }
+    }
+
+    /** Up to 300 signs, or a few less, by a COMMENT ahead. */
+    private String pad(String text) {
+        int room = 300 - pick(8) - text.length();
+        return room < 2 ? text : "[" + "x".repeat(room - 2) + "]" + text;
+    }
+
+    /** About as many ( within one another as there may be. */
+    private String deepTerm() {
+        int open = 13 + pick(4);
+        StringBuilder s = new StringBuilder();
+        for (int i = 0; i < open; i++) {
+            s.append('(').append(word()).append(chance(20) ? " a" : "");
+        }
+        nodesLeft = 1 + pick(20);
+        return s.append(' ').append(term(open)).append(")".repeat(open)).toString();
     }
 
     private int nodesLeft;
@@ -164,11 +192,11 @@ public final class ModelTest {
 
     private String term(int depth) {
         nodesLeft--;
-        if (nodesLeft <= 0 || depth > 17 || chance(depth == 0 ? 5 : 40)) {
+        if (nodesLeft <= 0 || depth > 17 || chance(depth == 0 ? 5 : atBounds ? 65 : 40)) {
             return chance(60) ? word() : number();
         }
         StringBuilder s = new StringBuilder("(").append(chance(10) ? layout() : "").append(word());
-        int parts = chance(8) ? 11 + pick(3) : chance(20) ? pick(8) : pick(4);
+        int parts = chance(atBounds ? 60 : 8) ? 11 + (chance(90) ? pick(2) : 2) : chance(20) ? pick(8) : pick(4);
         for (int i = 0; i < parts && nodesLeft > 0; i++) {
             String between = layout();
             String next = term(depth + 1);
@@ -196,9 +224,23 @@ public final class ModelTest {
         deepsLeft = chance(3) ? 2 : pick(2);
         ones = "";
         rows = "";
-        String left = chance(70) ? patternOf(model.src.nodes.get(pick(model.src.nodes.size()))) : pattern(0);
+        Model.Term node = model.src.nodes.get(pick(model.src.nodes.size()));
+        String left = chance(20) ? rowsAbout(node) : chance(60) ? patternOf(node) : pattern(0);
         itemsLeft = chance(10) ? 22 : 1 + pick(7);
         return gap() + left + gap() + "=" + gap() + put(0) + gap();
+    }
+
+    /** Two rows, and what may stand between them: a PATTERN that FITS in many WAYS. */
+    private String rowsAbout(Model.Term node) {
+        Model.Term t = node.kind == 'c' || node.parent == null ? node : node.parent;
+        itemsLeft = 5;
+        rowsLeft = 0;
+        rows = chance(20) ? "QQ" : "QR";
+        String deep = chance(30) ? "^" : "";
+        deepsLeft = deep.isEmpty() ? deepsLeft : 0;
+        boolean hasOne = !t.parts.isEmpty() && chance(60);
+        String one = hasOne ? patternOf(t.parts.get(pick(t.parts.size()))) : "";
+        return deep + "(" + (t.kind == 'c' ? t.name : "f") + " *Q " + one + " *" + rows.charAt(1) + (chance(20) ? " _" : "") + ")";
     }
 
     private String hole() {
