@@ -1297,20 +1297,30 @@ public final class SyntaxRules {
             for (int i = 0; i < HOLES; i++) {
                 firstAt[i] = NONE;
             }
+            int next = 0;
             for (int i = 0; i < laid.patternEnd; i++) {
-                if (laid.op[i] == Rule.DEEP || laid.rows[i] > 0) {
-                    addTest(FITS, i, NONE);
-                    i += laid.span[i] - 1;
-                } else if (laid.op[i] == Rule.TERM) {
-                    addTest(HEAD, i, NONE);
-                    addTest(PARTS, i, NONE);
-                } else if (laid.op[i] == Rule.LITERAL) {
-                    addTest(JUST, i, NONE);
-                } else if (laid.op[i] == Rule.HOLE) {
-                    layHole(laid, i);
+                if (i >= next) {
+                    next = i + layItem(laid, i);
                 }
             }
             return rowLength;
+        }
+
+        /** Lays out the TESTS of one item: for how many items they stand. */
+        private int layItem(Rule laid, int i) {
+            if (laid.op[i] == Rule.DEEP || laid.rows[i] > 0) {
+                addTest(FITS, i, NONE);
+                return laid.span[i];
+            }
+            if (laid.op[i] == Rule.TERM) {
+                addTest(HEAD, i, NONE);
+                addTest(PARTS, i, NONE);
+            } else if (laid.op[i] == Rule.LITERAL) {
+                addTest(JUST, i, NONE);
+            } else if (laid.op[i] == Rule.HOLE) {
+                layHole(laid, i);
+            }
+            return 1;
         }
 
         private void layHole(Rule laid, int hole) {
@@ -1368,7 +1378,7 @@ public final class SyntaxRules {
 
         private boolean asksSame(int test, Rule laid, int i) {
             Rule hung = rule[test];
-            if (type[test] != rowType[i] || !hung.samePath(item[test], laid, rowItem[i])) {
+            if (hung == null || type[test] != rowType[i] || !hung.samePath(item[test], laid, rowItem[i])) {
                 return false;
             }
             switch (rowType[i]) {
@@ -1416,7 +1426,7 @@ public final class SyntaxRules {
         private boolean holds(int test, Source source, int node, Fitting fitting) {
             Rule its = rule[test];
             int i = item[test];
-            int there = follow(its, i, source, node);
+            int there = its == null ? NONE : follow(its, i, source, node);
             if (there == NONE) {
                 return false;
             }

@@ -125,7 +125,7 @@ public final class BoundsOfFitsTest {
     }
 
     private static void anyAndKinds() {
-        says("_ any; ?L any, of that KIND, if one is told;");
+        says("A PATTERN FITS a NODE: _ any; ?L any, of that KIND, if one is told;");
         String[] sources = {"12", "ab", "(f a)"};
         for (int i = 0; i < 3; i++) {
             checkWays(sources[i], "_", 1);
@@ -366,7 +366,7 @@ public final class BoundsOfFitsTest {
     }
 
     private static void sharedTree() {
-        says("of all RULES, by numbers, rows of TESTS are laid into one tree: those that begin alike have that beginning in common.");
+        says("SHARED: of all RULES, by numbers, rows of TESTS are laid into one tree: those that begin alike have that beginning in common.");
         checkShared(0, 0);
         checkShared(0, 0, "_", "?A");
         checkShared(2, 1, "a", "a");
@@ -426,7 +426,7 @@ public final class BoundsOfFitsTest {
     }
 
     private static void askedOf() {
-        says("of how many TESTS of that tree it is asked: those at the top, and those below one that was asked and is so.");
+        says("ASKED of a NODE: of how many TESTS of that tree it is asked: those at the top, and those below one that was asked and is so.");
         checkAsked(0, "a");
         checkAsked(0, "a", "_", "?A");
         checkAsked(1, "b", "a", "a");

@@ -266,7 +266,7 @@ public final class BoundsOfPromisesTest {
     }
 
     private static void comment() {
-        says(9, "how many (i NONE, what 0); of the i-th where it begins (what 0), how many signs (1), the least NODE of which it lies in the PLACE, but of none of its PARTS' (2; NONE). NONE: others.");
+        says(9, "COMMENTS of the SOURCE: how many (i NONE, what 0); of the i-th where it begins (what 0), how many signs (1), the least NODE of which it lies in the PLACE, but of none of its PARTS' (2; NONE). NONE: others.");
         due("none", new Desk().x.comment(NONE, 0), 0);
         due("the first of none", new Desk().x.comment(0, 0), NONE);
         Desk d = Desk.with("[](f[a](g[bc]))[d]");

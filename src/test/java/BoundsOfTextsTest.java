@@ -263,7 +263,7 @@ public final class BoundsOfTextsTest {
     }
 
     private static void tokens() {
-        says("?L, ?L:K, *L (nothing stands within one)");
+        says("TOKENS of it: WORD, NUMBER, ( ) _ ^ =, ?L, ?L:K, *L (nothing stands within one)");
         checkRuleFault("? A = b", 1);
         checkRuleFault("?A :n = b", 3);
         checkRuleFault("?A: n = b", 3);

@@ -89,7 +89,7 @@ public final class BoundsOfWalksTest {
     }
 
     private static void leastRule() {
-        says("each a NODE and a RULE that FITS it, the least such.");
+        says("EDITS of a WALK (WAY 0: from outside; 1: from inside): each a NODE and a RULE that FITS it, the least such.");
         checkEdits(OUTSIDE, "0:1", "a", "b = 1", "_ = 2", "a = 3");
         checkEdits(INSIDE, "0:1", "a", "b = 1", "_ = 2", "a = 3");
         checkEdits(OUTSIDE, "0:7", "a", "b = 1", "b = 1", "b = 1", "b = 1", "b = 1", "b = 1", "b = 1", "a = 1");
@@ -132,7 +132,7 @@ public final class BoundsOfWalksTest {
     }
 
     private static void carried() {
-        says("all COMMENTS in its PLACE that lie in no text HELD by an L of the PUT, in their order, a blank behind each;");
+        says("The signs that come in place of a NODE: all COMMENTS in its PLACE that lie in no text HELD by an L of the PUT, in their order, a blank behind each;");
         checkComes("(f[1]a[2])", "(f a) = b", "[1] [2] b");
         checkComes("([1]f(g[2]a)[3]b)", "(f ?A ?B) = ?A", "[1] [3] (g[2]a)");
         checkComes("([1]f(g[2]a)[3]b)", "(f ?A ?B) = ?B", "[1] [2] [3] b");
@@ -157,7 +157,7 @@ public final class BoundsOfWalksTest {
     }
 
     private static void puts() {
-        says("WORD, NUMBER as they are; ( and the WORD, a blank ahead of each that follows, );");
+        says("then the PUT: WORD, NUMBER as they are; ( and the WORD, a blank ahead of each that follows, );");
         checkComes("a", "a = bcdefghi", "bcdefghi");
         checkComes("a", "a = 0001", "0001");
         checkComes("a", "a =  (  f  )  ", "(f)");
@@ -194,7 +194,7 @@ public final class BoundsOfWalksTest {
     }
 
     private static void blanksBeside() {
-        says("a blank is put ahead of what comes, or behind it, where else a letter would stand beside a letter, a digit beside a digit there");
+        says("but that a blank is put ahead of what comes, or behind it, where else a letter would stand beside a letter, a digit beside a digit there");
         checkApplied("(f a)", "(f(g))", "(g) = a");
         checkApplied("(f1)", "(f(g))", "(g) = 1");
         checkApplied("(f 1 2)", "(f 1(g))", "(g) = 2");
@@ -270,7 +270,7 @@ public final class BoundsOfWalksTest {
     }
 
     private static void textIsEmptied() {
-        says("source() and rule() empty THE TEXT whatever they answer; with a FAULT all else stays.");
+        says("IN FULL: source() and rule() empty THE TEXT whatever they answer; with a FAULT all else stays.");
         Desk d = Desk.with("(f a)", "a = 0", "a = 1", "a = 2", "a = 3", "a = 4", "a = 5", "a = 6");
         String before = d.state();
         Desk.due("a FAULT of source()", d.source("(f (g b)"), -1008);
@@ -314,7 +314,7 @@ public final class BoundsOfWalksTest {
     }
 
     private static void whatCannotStand() {
-        says("a ( without a WORD, a ? or * without an L: at what stands there instead;");
+        says("What can't stand: a ( without a WORD, a ? or * without an L: at what stands there instead;");
         String[] noWord = {")", "(", "1", "A", "?A", "*A", "_", "^", "="};
         for (String s : noWord) {
             checkFault(false, "(" + s, 1);
